@@ -1,0 +1,35 @@
+/** Counts the answers that are not the ones due, and prints each. */
+final class Due {
+    private static int asked = 0;
+    private static int wrong = 0;
+
+    private Due() {
+    }
+
+    static void is(String what, long got, long due) {
+        asked++;
+        if (got != due) {
+            wrong++;
+            System.out.println(what + " answered " + got + ", due is " + due);
+        }
+    }
+
+    static void is(String what, boolean got, boolean due) {
+        is(what, got ? 1 : 0, due ? 1 : 0);
+    }
+
+    static void yes(String what, boolean got) {
+        is(what, got, true);
+    }
+
+    static void no(String what, boolean got) {
+        is(what, got, false);
+    }
+
+    static void end() {
+        System.out.println(asked + " answers, " + wrong + " not as due");
+        if (wrong != 0 || asked == 0) {
+            System.exit(1);
+        }
+    }
+}
