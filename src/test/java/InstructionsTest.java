@@ -69,6 +69,9 @@ public final class InstructionsTest {
         Due.is("PUT with b -2: variable 2", x.greatest(2), MIN);
         Due.is("PUT changes no register", x.leastRegister(0, 0), 0);
         Due.is("PUT changes no other variable", x.greatest(0), 0);
+        x.emit(0, Op.LOCK, 0, 0);
+        x.emit(0, Op.LOCK, 1, 0);
+        Due.yes("PUT takes no lock", x.canComplete());
     }
 
     private static void swap() {
@@ -142,6 +145,11 @@ public final class InstructionsTest {
         x.emit(0, Op.UNLOCK, 2, 0);
         x.emit(0, Op.LOCK, 0, 0);
         Due.yes("UNLOCK of a free lock does nothing, of one's own frees it", x.canComplete());
+        x.drop(0);
+        x.begin(0, 6);
+        x.emit(0, Op.UNLOCK, 0, 0);
+        Due.is("UNLOCK changes no variable", x.least(0), 6);
+        Due.is("UNLOCK changes no register", x.leastRegister(0, 0), 0);
         x.drop(0);
         x.emit(0, Op.LOCK, 0, 0);
         x.emit(0, Op.UNLOCK, 1, 0);

@@ -21,6 +21,7 @@ public final class PromisesTest {
         promise5CanComplete();
         promise6CanStick();
         promise7CanFail();
+        promise7CanFailNoMore();
         promise8CanEnd();
         promise9CanEndBoth();
         promises10And11LeastAndGreatest();
@@ -177,6 +178,8 @@ public final class PromisesTest {
         Due.is("3: does not change what the variable begins with", x.begin(3, 60), 4);
         x.drop(0);
         Due.is("3: what was set stays when instructions go", x.least(3), 60);
+        x.begin(3, 61);
+        Due.is("3: a question after it sees the new value", x.least(3), 61);
     }
 
     private static void promise4Drop() {
@@ -257,6 +260,16 @@ public final class PromisesTest {
         InterleaveExplorer y = crossedLocks();
         y.emit(1, Op.CHECK, 0, 1);
         Due.yes("7: a run can fail where others are stuck", y.canFail(1));
+    }
+
+    private static void promise7CanFailNoMore() {
+        for (int thread = 0; thread < 3; thread++) {
+            InterleaveExplorer x = new InterleaveExplorer();
+            x.emit(thread, Op.CHECK, 0, 1);
+            Due.yes("7: while the CHECK is there", x.canFail(thread));
+            x.drop(thread);
+            Due.no("7: when it is dropped", x.canFail(thread));
+        }
     }
 
     private static void promise8CanEnd() {
