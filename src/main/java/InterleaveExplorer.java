@@ -60,6 +60,7 @@ public final class InterleaveExplorer {
     private final int[] ends = new int[ENDS_LENGTH];
     private int endCount = 0;
 
+    // All that a new object needs is the zeros that its arrays are made with.
     public InterleaveExplorer() {
     }
 
@@ -351,6 +352,7 @@ public final class InterleaveExplorer {
             stuck = true;
             return;
         }
+        // There are never more; looked at so that no index can leave the array.
         if (endCount >= MOST_ENDS) {
             return;
         }
