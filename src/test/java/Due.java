@@ -2,15 +2,28 @@
 final class Due {
     private static int asked = 0;
     private static int wrong = 0;
+    private static String sentence = "";
 
     private Due() {
+    }
+
+    /** A test of its own for one sentence of the document, which is printed with what is not as due. */
+    static void sentence(String words, Runnable test) {
+        int before = asked;
+        sentence = "[" + words + "] ";
+        test.run();
+        if (asked == before) {
+            wrong++;
+            System.out.println(sentence + "nothing was asked");
+        }
+        sentence = "";
     }
 
     static void is(String what, long got, long due) {
         asked++;
         if (got != due) {
             wrong++;
-            System.out.println(what + " answered " + got + ", due is " + due);
+            System.out.println(sentence + what + " answered " + got + ", due is " + due);
         }
     }
 

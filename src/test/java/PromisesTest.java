@@ -36,48 +36,6 @@ public final class PromisesTest {
         Due.end();
     }
 
-    /** Thread 0 and thread 1 each add 1 to variable 0, without a lock. */
-    private static InterleaveExplorer lostUpdate() {
-        InterleaveExplorer x = new InterleaveExplorer();
-        for (int thread = 0; thread < 2; thread++) {
-            x.emit(thread, Op.LOAD, 0, 0);
-            x.emit(thread, Op.ADD, 0, 1);
-            x.emit(thread, Op.STORE, 0, 0);
-        }
-        return x;
-    }
-
-    /** The same under a lock. */
-    private static InterleaveExplorer lockedUpdate() {
-        InterleaveExplorer x = new InterleaveExplorer();
-        for (int thread = 0; thread < 2; thread++) {
-            x.emit(thread, Op.LOCK, 0, 0);
-            x.emit(thread, Op.LOAD, 0, 0);
-            x.emit(thread, Op.ADD, 0, 1);
-            x.emit(thread, Op.STORE, 0, 0);
-            x.emit(thread, Op.UNLOCK, 0, 0);
-        }
-        return x;
-    }
-
-    /** Two threads that take the two locks in opposite orders. */
-    private static InterleaveExplorer crossedLocks() {
-        InterleaveExplorer x = new InterleaveExplorer();
-        for (int thread = 0; thread < 2; thread++) {
-            x.emit(thread, Op.LOCK, thread, 0);
-            x.emit(thread, Op.LOCK, 1 - thread, 0);
-            x.emit(thread, Op.UNLOCK, 0, 0);
-            x.emit(thread, Op.UNLOCK, 1, 0);
-        }
-        return x;
-    }
-
-    private static InterleaveExplorer neverComplete() {
-        InterleaveExplorer x = new InterleaveExplorer();
-        x.emit(1, Op.AWAIT, 0, 1);
-        return x;
-    }
-
     private static void promise1NewObject() {
         InterleaveExplorer x = new InterleaveExplorer();
         Due.yes("1: the run of no instructions is complete", x.canComplete());
@@ -183,7 +141,7 @@ public final class PromisesTest {
     }
 
     private static void promise4Drop() {
-        InterleaveExplorer x = lockedUpdate();
+        InterleaveExplorer x = Programs.lockedUpdate();
         for (int thread : WRONG_THREADS) {
             Due.is("4: drop of thread " + thread, x.drop(thread), BAD_THREAD);
         }
@@ -200,9 +158,9 @@ public final class PromisesTest {
     }
 
     private static void promise5CanComplete() {
-        Due.yes("5: without waiting", lostUpdate().canComplete());
-        Due.yes("5: some run is complete, though one is stuck", crossedLocks().canComplete());
-        Due.no("5: every run is stuck", neverComplete().canComplete());
+        Due.yes("5: without waiting", Programs.lostUpdate().canComplete());
+        Due.yes("5: some run is complete, though one is stuck", Programs.crossedLocks().canComplete());
+        Due.no("5: every run is stuck", Programs.neverComplete().canComplete());
         InterleaveExplorer x = new InterleaveExplorer();
         x.emit(0, Op.CHECK, 0, 1);
         Due.no("5: every run fails", x.canComplete());
@@ -216,11 +174,11 @@ public final class PromisesTest {
     }
 
     private static void promise6CanStick() {
-        Due.no("6: without waiting", lostUpdate().canStick());
-        Due.no("6: one lock, given back", lockedUpdate().canStick());
-        Due.yes("6: crossed locks", crossedLocks().canStick());
-        Due.yes("6: waiting for what never comes", neverComplete().canStick());
-        InterleaveExplorer x = neverComplete();
+        Due.no("6: without waiting", Programs.lostUpdate().canStick());
+        Due.no("6: one lock, given back", Programs.lockedUpdate().canStick());
+        Due.yes("6: crossed locks", Programs.crossedLocks().canStick());
+        Due.yes("6: waiting for what never comes", Programs.neverComplete().canStick());
+        InterleaveExplorer x = Programs.neverComplete();
         x.emit(0, Op.PUT, 1, 0);
         Due.no("6: waiting for what always comes", x.canStick());
         x.emit(0, Op.PUT, 2, 0);
@@ -257,7 +215,7 @@ public final class PromisesTest {
         x.emit(2, Op.CHECK, 0, 1);
         Due.yes("7: the run ends when it fails", x.canFail(0));
         Due.no("7: so what would come after it does not fail", x.canFail(2));
-        InterleaveExplorer y = crossedLocks();
+        InterleaveExplorer y = Programs.crossedLocks();
         y.emit(1, Op.CHECK, 0, 1);
         Due.yes("7: a run can fail where others are stuck", y.canFail(1));
     }
@@ -273,7 +231,7 @@ public final class PromisesTest {
     }
 
     private static void promise8CanEnd() {
-        InterleaveExplorer x = lostUpdate();
+        InterleaveExplorer x = Programs.lostUpdate();
         Due.no("8: 0", x.canEnd(0, 0));
         Due.yes("8: 1, an update lost", x.canEnd(0, 1));
         Due.yes("8: 2", x.canEnd(0, 2));
@@ -282,10 +240,10 @@ public final class PromisesTest {
         for (int variable : WRONG_VARIABLES) {
             Due.no("8: variable " + variable, x.canEnd(variable, 0));
         }
-        InterleaveExplorer y = lockedUpdate();
+        InterleaveExplorer y = Programs.lockedUpdate();
         Due.no("8: with a lock, 1", y.canEnd(0, 1));
         Due.yes("8: with a lock, 2", y.canEnd(0, 2));
-        InterleaveExplorer z = neverComplete();
+        InterleaveExplorer z = Programs.neverComplete();
         Due.no("8: a stuck run does not count", z.canEnd(0, 0));
         z.drop(1);
         z.emit(0, Op.PUT, 5, 1);
@@ -321,11 +279,11 @@ public final class PromisesTest {
         Due.yes("9: each alone, 0", y.canEnd(1, 0));
         Due.yes("9: each alone, 1", y.canEnd(2, 1));
         Due.no("9: but in no single run", y.canEndBoth(1, 0, 2, 1));
-        Due.no("9: a stuck run does not count", neverComplete().canEndBoth(0, 0, 1, 0));
+        Due.no("9: a stuck run does not count", Programs.neverComplete().canEndBoth(0, 0, 1, 0));
     }
 
     private static void promises10And11LeastAndGreatest() {
-        InterleaveExplorer x = lostUpdate();
+        InterleaveExplorer x = Programs.lostUpdate();
         x.begin(0, -1);
         x.begin(2, -9);
         Due.is("10: least", x.least(0), 0);
@@ -363,7 +321,7 @@ public final class PromisesTest {
         x.emit(1, Op.PUT, NONE + 2, 3);
         Due.is("10: NONE as a value", x.least(3), NONE);
         Due.is("11: beside NONE as a value", x.greatest(3), NONE + 2);
-        InterleaveExplorer y = neverComplete();
+        InterleaveExplorer y = Programs.neverComplete();
         for (int variable = 0; variable < 4; variable++) {
             Due.is("10: no run is complete", y.least(variable), NONE);
             Due.is("11: no run is complete", y.greatest(variable), NONE);
@@ -391,17 +349,17 @@ public final class PromisesTest {
         for (int thread : WRONG_THREADS) {
             Due.is("12: thread " + thread, x.leastRegister(thread, 0), BAD_THREAD);
         }
-        InterleaveExplorer y = neverComplete();
+        InterleaveExplorer y = Programs.neverComplete();
         for (int thread = 0; thread < 3; thread++) {
             Due.is("12: no run is complete", y.leastRegister(thread, thread), NONE);
         }
     }
 
     private static void promise13Settled() {
-        Due.no("13: an update can be lost", lostUpdate().settled());
-        Due.yes("13: under a lock", lockedUpdate().settled());
-        Due.no("13: some run is stuck", crossedLocks().settled());
-        Due.no("13: no run is complete", neverComplete().settled());
+        Due.no("13: an update can be lost", Programs.lostUpdate().settled());
+        Due.yes("13: under a lock", Programs.lockedUpdate().settled());
+        Due.no("13: some run is stuck", Programs.crossedLocks().settled());
+        Due.no("13: no run is complete", Programs.neverComplete().settled());
         InterleaveExplorer x = new InterleaveExplorer();
         x.emit(0, Op.PUT, 1, 0);
         x.emit(1, Op.LOAD, 0, 0);
@@ -430,7 +388,7 @@ public final class PromisesTest {
     }
 
     private static void promise14OrderOfEmit() {
-        InterleaveExplorer x = lockedUpdate();
+        InterleaveExplorer x = Programs.lockedUpdate();
         Due.is("14: wrong thread and op, and full", x.emit(3, 9, 0, 0), BAD_THREAD);
         Due.is("14: wrong thread, and full", x.emit(-1, Op.ADD, 0, 0), BAD_THREAD);
         Due.is("14: wrong op, the thread full", x.emit(0, 9, 0, 0), BAD_OP);
@@ -441,7 +399,7 @@ public final class PromisesTest {
     }
 
     private static void promise14WrongBeforeNone() {
-        InterleaveExplorer x = neverComplete();
+        InterleaveExplorer x = Programs.neverComplete();
         for (int variable : WRONG_VARIABLES) {
             Due.is("14: least of " + variable, x.least(variable), BAD_VARIABLE);
             Due.is("14: greatest of " + variable, x.greatest(variable), BAD_VARIABLE);
@@ -471,7 +429,7 @@ public final class PromisesTest {
     }
 
     private static void questionsChangeNothing() {
-        InterleaveExplorer x = lostUpdate();
+        InterleaveExplorer x = Programs.lostUpdate();
         x.emit(2, Op.AWAIT, 0, 1);
         x.emit(2, Op.CHECK, 0, 0);
         for (int round = 0; round < 3; round++) {
