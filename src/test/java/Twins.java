@@ -13,28 +13,35 @@ final class Twins {
         this.what = what;
     }
 
-    /** With a question ahead of the calls and without, since the object may keep what it found. */
+    /**
+     * With questions ahead of the calls and without, since the object may keep what it found; and
+     * with questions first or changes first after them, since asking both could hide a difference.
+     */
     static void stayAlike(String what, Consumer<InterleaveExplorer> program, Consumer<InterleaveExplorer> calls) {
-        for (boolean askedBefore : new boolean[] {false, true}) {
-            Twins twins = new Twins(what + (askedBefore ? ", after a question: " : ": "));
+        for (int way = 0; way < 4; way++) {
+            boolean askBefore = way % 2 == 1;
+            boolean askFirst = way / 2 == 1;
+            Twins twins = new Twins(what + (askBefore ? ", after questions: " : ": "));
             program.accept(twins.one);
             program.accept(twins.other);
-            if (askedBefore) {
+            if (askBefore) {
                 twins.askAll();
             }
             calls.accept(twins.one);
-            twins.followFromNowOn();
+            if (askFirst) {
+                twins.askAll();
+            }
+            twins.changeBoth();
         }
     }
 
-    private void followFromNowOn() {
+    private void changeBoth() {
+        for (int variable = 0; variable < 4; variable++) {
+            is("begin of " + variable, one.begin(variable, variable + 1), other.begin(variable, variable + 1));
+        }
         askAll();
         for (int thread = 0; thread < 3; thread++) {
             is("emit to " + thread, one.emit(thread, Op.SWAP, 0, 3), other.emit(thread, Op.SWAP, 0, 3));
-        }
-        askAll();
-        for (int variable = 0; variable < 4; variable++) {
-            is("begin of " + variable, one.begin(variable, variable + 1), other.begin(variable, variable + 1));
         }
         askAll();
         for (int thread = 0; thread < 3; thread++) {
